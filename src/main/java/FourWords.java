@@ -147,7 +147,9 @@ public final class FourWords {
         demandValues(1);
         int a = size - 1;
         int width = widthRow[a];
-        demandRange(n, 1, WIDEST / width);
+        // No value takes more copies than a bit does; behind that look the product can't wrap round.
+        demandRange(n, 1, WIDEST);
+        demandRange(n * width, 1, WIDEST);
         long ones = onesRow[a];
         long unknown = unknownRow[a];
         for (int i = 1; i < n; i++) {
@@ -203,7 +205,7 @@ public final class FourWords {
         if (form == FORM_NUMBER) {
             writeNumber(a, brief);
         } else {
-            writeGroups(a, form == FORM_BITS ? 1 : 4, brief);
+            writeGroups(a, form == FORM_BITS ? 0 : 2, brief);
         }
         size--;
         return line.length;
@@ -504,12 +506,14 @@ public final class FourWords {
         }
     }
 
-    private void writeGroups(int place, int groupWidth, boolean brief) {
+    /** Each letter stands for 2^power bits, the first for fewer if the width leaves fewer. */
+    private void writeGroups(int place, int power, boolean brief) {
         int width = widthRow[place];
-        for (int low = (width - 1) / groupWidth * groupWidth; low >= 0; low -= groupWidth) {
-            long all = Bits.lowest(Math.min(groupWidth, width - low));
+        for (int group = width - 1 >> power; group >= 0; group--) {
+            int low = group << power;
+            long all = Bits.lowest(Math.min(1 << power, width - low));
             char letter = groupLetter(onesRow[place] >>> low & all, unknownRow[place] >>> low & all, all);
-            boolean leadingZero = letter == '0' && line.length == 0 && low > 0;
+            boolean leadingZero = letter == '0' && line.length == 0 && group > 0;
             if (!brief || !leadingZero) {
                 line.write(letter);
             }

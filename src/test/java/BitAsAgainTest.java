@@ -65,6 +65,9 @@ public final class BitAsAgainTest {
             Due.bad("as(" + width + ")", Due.pile("10"), w -> w.as(width, true));
             Due.bad("as(" + width + ") of none", new FourWords(), w -> w.as(width, true));
         }
+        FourWords single = Due.pile("s10");
+        single.as(3, false);
+        Due.same("as of a single value", Due.values(single), "110");
         Due.state("as of none", new FourWords(), w -> w.as(1, true));
     }
 

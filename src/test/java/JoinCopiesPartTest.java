@@ -37,6 +37,7 @@ public final class JoinCopiesPartTest {
     private static void copying() {
         copies(3, "1xz0", "1xz01xz01xz0");
         copies(1, "s1x", "1x");
+        copies(1, "sx", "x");
         copies(64, "sz", "z".repeat(64));
         copies(1, "s" + ALL, ALL);
         copies(2, "x" + "0".repeat(31), ("x" + "0".repeat(31)).repeat(2));
@@ -53,6 +54,7 @@ public final class JoinCopiesPartTest {
         Due.bad("2 copies of 33 bits", Due.pile("1".repeat(33)), w -> w.copies(2));
         // These would wrap round to few bits in an int.
         Due.bad("2^30 copies of four bits", Due.pile("1010"), w -> w.copies(1 << 30));
+        Due.bad("2^30 + 1 copies of four bits", Due.pile("1010"), w -> w.copies((1 << 30) + 1));
         Due.bad("2^31 - 1 copies of 64 bits", Due.pile(ALL), w -> w.copies(Integer.MAX_VALUE));
     }
 

@@ -63,6 +63,9 @@ public final class OneTest {
             Due.bad("one(" + sign + ")", Due.pile("10"), w -> w.one(sign));
             Due.bad("one(" + sign + ") of none", new FourWords(), w -> w.one(sign));
         }
+        FourWords single = Due.pile("s01");
+        single.one(0);
+        Due.same("one of a single value", Due.values(single), "s11");
         for (int i = 0; i <= 8; i++) {
             int sign = i;
             Due.state("one(" + sign + ") of none", new FourWords(), w -> w.one(sign));

@@ -42,6 +42,8 @@ public final class ShiftTest {
         shift("1x0z1", 3, "1", "01x0z");
         shift("s1111", 1, "100", "s0000");
         shift("1111", 3, "100", "0000");
+        shift("z" + ALL.substring(1), 1, "1", "0z" + ALL.substring(2));
+        shift("x" + ALL.substring(1), 3, "10", "00x" + ALL.substring(3));
         for (int how = 1; how <= 3; how += 2) {
             shift("1000", how, "s11", "0001");
             shift("1111", how, HUGE, "0000");

@@ -92,6 +92,9 @@ public final class TwoTest {
     private static void equality() {
         equality("1010", "1010", "1010");
         equality("1010", "1011", "0101");
+        equality("10", "00", "0101");
+        equality("00", "10", "0101");
+        equality("11", "1z", "xx01");
         equality("1x10", "1x11", "0101");
         equality("1x10", "1x10", "xx10");
         equality("1x10", "1z10", "xx01");
@@ -117,6 +120,8 @@ public final class TwoTest {
         order("11", "0011", "0101");
         order("s1001", "s0000010", "1100");
         order("1001", "s0000010", "0011");
+        order("s1001", "s1001", "0101");
+        order("s0010", "s1001", "0011");
         order("s1001", "0000010", "0011");
         order(ALL, "0", "0011");
         order(MINUS_ONE, "s0", "1100");
