@@ -330,13 +330,13 @@ public final class FourWords {
     }
 
     private void reckon(int sign, int a, int b) {
+        long left = number(a);
+        long right = number(b);
         boolean divides = sign == DIVIDE || sign == REMAINDER;
-        if ((unknownRow[a] | unknownRow[b]) != 0 || (divides && onesRow[b] == 0)) {
+        if ((unknownRow[a] | unknownRow[b]) != 0 || (divides && right == 0)) {
             fillWithX(a);
             return;
         }
-        long left = number(a);
-        long right = number(b);
         switch (sign) {
             case PLUS:
                 setBits(a, left + right, 0);
@@ -576,9 +576,9 @@ public final class FourWords {
             return a + Long.MIN_VALUE < b + Long.MIN_VALUE;
         }
 
-        /** The divisor is not 0. */
+        /** No caller divides by 0, but this look keeps it from Java's own division all the same. */
         private static long quotient(long a, long divisor) {
-            if (divisor < 0) {
+            if (divisor <= 0) {
                 return below(a, divisor) ? 0 : 1;
             }
             // Half of a is never negative, so Java can divide it; twice that quotient is at most 1 too small.

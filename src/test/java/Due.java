@@ -6,13 +6,31 @@ final class Due {
     private static final Class<?> STATE = IllegalStateException.class;
     private static final Class<?> INDEX = IndexOutOfBoundsException.class;
     private static int wrong = 0;
+    private static String sentence = "";
 
     private Due() {
+    }
+
+    /** Runs the test of some words of the document, which are printed if it fails; the tests behind it go on. */
+    static void holds(String words, Runnable test) {
+        sentence = words;
+        String thrown = "";
+        try {
+            test.run();
+        } catch (RuntimeException e) {
+            thrown = e.toString();
+        }
+        same("the test, breaking off,", thrown, "");
+        sentence = "";
     }
 
     static void same(String what, Object got, Object want) {
         if (!got.equals(want)) {
             wrong++;
+            if (!sentence.isEmpty()) {
+                System.out.println("\"" + sentence + "\" does not hold:");
+                sentence = "";
+            }
             System.out.println(what + " answered " + got + ", due is " + want);
         }
     }
@@ -69,7 +87,7 @@ final class Due {
         return text.toString();
     }
 
-    private static String state(FourWords words) {
+    static String state(FourWords words) {
         return values(words) + " \"" + text(words) + "\"";
     }
 
@@ -87,14 +105,17 @@ final class Due {
 
     private static void refused(String what, FourWords words, Consumer<FourWords> call, Class<?> kind) {
         String before = state(words);
-        String got = "nothing";
+        same(what + " throws", thrown(words, call), kind.getSimpleName());
+        same(what + " leaves", state(words), before);
+    }
+
+    static String thrown(FourWords words, Consumer<FourWords> call) {
         try {
             call.accept(words);
         } catch (RuntimeException e) {
-            got = e.getClass().getName();
+            return e.getClass().getSimpleName();
         }
-        same(what + " throws", got, kind.getName());
-        same(what + " leaves", state(words), before);
+        return "nothing";
     }
 
     static void end() {

@@ -1,9 +1,13 @@
 import java.util.function.Supplier;
 
-/** All promises: the program beside Model, on all pairs of narrow values and on long mixed runs. */
+/** All promises: the program beside Model, on all pairs of narrow values, on full piles and on long mixed runs. */
 public final class ModelTest {
     private static final int CALLS = 512;
     private static final int RUNS = 4000;
+    private static final int BLIND_RUNS = 2000;
+    private static final int FULL_PILES = 10;
+    private static final int SLACK = 11 + 5 * 5;
+    private static final int WHOLE_LOOK = 4 + 2 + 64 * 4 + 65;
     private static final int[] EDGES = {Integer.MIN_VALUE, -1, 0, 1, 2, 3, 4, 5, 8, 9, 18, 19, 63, 64, 65,
         Integer.MAX_VALUE};
 
@@ -11,12 +15,18 @@ public final class ModelTest {
     private Model model = new Model();
     private StringBuilder calls = new StringBuilder();
     private int made = 0;
+    /** Calls that a run keeps for its last looks. */
+    private int kept = 0;
     private long seed = 20261115;
 
     public static void main(String[] args) {
         ModelTest test = new ModelTest();
         test.narrowPairs();
         test.narrowThrees();
+        test.fullPiles();
+        for (int run = 0; run < BLIND_RUNS; run++) {
+            test.blindRun();
+        }
         for (int run = 0; run < RUNS; run++) {
             test.mixedRun();
         }
@@ -46,6 +56,9 @@ public final class ModelTest {
 
     private void both(String name, Supplier<Object> program, Supplier<Object> due) {
         made++;
+        if (made > CALLS) {
+            throw new IllegalStateException("the test itself makes too many calls");
+        }
         calls.append(name).append(' ');
         String got = answer(program);
         String want = answer(due);
@@ -83,6 +96,10 @@ public final class ModelTest {
 
     private void choose() {
         both("choose()", () -> words.choose(), () -> model.choose());
+    }
+
+    private void join() {
+        both("join()", () -> words.join(), () -> model.join());
     }
 
     private void text(int form, boolean brief) {
@@ -130,7 +147,7 @@ public final class ModelTest {
                 } else if (sign < 23) {
                     shift(sign - 19);
                 } else if (sign == 23) {
-                    both("join()", () -> words.join(), () -> model.join());
+                    join();
                 } else {
                     both("bit()", () -> words.bit(), () -> model.bit());
                 }
@@ -149,6 +166,84 @@ public final class ModelTest {
             choose();
             look(0);
             text(2, true);
+        }
+    }
+
+    /** Every call that takes values or puts one, on a pile of 64, and all that is there then. */
+    private void fullPiles() {
+        for (int round = 0; round < FULL_PILES; round++) {
+            for (int call = 0; call < 19 + 4 + 9 + 6 + 9; call++) {
+                renew();
+                for (int i = 0; i < 64; i++) {
+                    push(bits(), unknownBits(), 1 + below(64), heads());
+                }
+                makeOnFull(call);
+                lookAtAll();
+            }
+        }
+    }
+
+    private void makeOnFull(int call) {
+        if (call < 19) {
+            two(call);
+        } else if (call < 23) {
+            shift(call - 19);
+        } else if (call < 32) {
+            one(call - 23);
+        } else if (call < 38) {
+            text((call - 32) / 2, call % 2 == 0);
+        } else {
+            makeOtherOnFull(call - 38);
+        }
+    }
+
+    private void makeOtherOnFull(int call) {
+        switch (call) {
+            case 0 -> choose();
+            case 1 -> join();
+            case 2 -> copies(1 + below(3));
+            case 3 -> part(below(64), below(8));
+            case 4 -> both("bit()", () -> words.bit(), () -> model.bit());
+            case 5 -> as(1 + below(64), heads());
+            case 6 -> again(below(65));
+            case 7 -> push(bits(), unknownBits(), 1 + below(64), heads());
+            default -> push(bits(), unknownBits(), number(65), heads());
+        }
+    }
+
+    private void lookAtAll() {
+        count(0);
+        count(1);
+        for (int i = 0; i < model.count(0); i++) {
+            for (int what = 0; what < 4; what++) {
+                told(i, what);
+            }
+        }
+        for (int i = 0; i <= model.count(1); i++) {
+            letter(i);
+        }
+    }
+
+    /** Looks at nothing before the end, so that far more calls change the pile, which often is full or empty. */
+    private void blindRun() {
+        renew();
+        int eager = 1 + below(12);
+        kept = WHOLE_LOOK;
+        while (made + kept < CALLS) {
+            if (below(12) < eager) {
+                pushAny();
+            } else {
+                reckonBlindly();
+            }
+        }
+        lookAtAll();
+    }
+
+    private void reckonBlindly() {
+        if (below(8) == 0) {
+            text(number(3), heads());
+        } else {
+            reckon();
         }
     }
 
@@ -209,7 +304,8 @@ public final class ModelTest {
     private void mixedRun() {
         renew();
         int eager = 1 + below(12);
-        while (made + 8 + 5 * 5 < CALLS) {
+        kept = SLACK;
+        while (made + kept < CALLS) {
             if (below(12) < eager) {
                 pushAny();
             } else {
@@ -217,6 +313,7 @@ public final class ModelTest {
             }
             count(0);
             count(1);
+            letter(number(20));
             look(0);
         }
         for (int i = 1; i < 6; i++) {
@@ -231,7 +328,7 @@ public final class ModelTest {
             case 5 -> shiftByFew();
             case 6, 7 -> one(number(9));
             case 8 -> choose();
-            case 9 -> both("join()", () -> words.join(), () -> model.join());
+            case 9 -> join();
             case 10 -> copies(1 + number(4));
             case 11 -> part(number(64), number(20));
             case 12 -> bit();
@@ -267,7 +364,7 @@ public final class ModelTest {
 
     private void write() {
         text(number(3), heads());
-        int room = CALLS - made - 8 - 5 * 5;
+        int room = CALLS - made - kept;
         for (int i = 0; i < Math.min(room, model.count(1) + 1); i++) {
             letter(i);
         }

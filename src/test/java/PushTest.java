@@ -30,20 +30,8 @@ public final class PushTest {
         for (int i = 1; i <= 64; i++) {
             Due.same("push " + i, full.push(i, 0, 8, false), i);
         }
-        // A full pile's own state takes too many calls to read it twice.
-        String got = "nothing";
-        try {
-            full.push(1, 0, 8, false);
-        } catch (IllegalStateException e) {
-            got = "no room";
-        }
-        Due.same("push on a full pile", got, "no room");
-        try {
-            full.push(1, 0, 65, false);
-        } catch (IllegalArgumentException e) {
-            got = "bad";
-        }
-        Due.same("bad push on a full pile", got, "bad");
+        Due.same("push on a full pile", Due.thrown(full, w -> w.push(1, 0, 8, false)), "IllegalStateException");
+        Due.same("bad push on a full pile", Due.thrown(full, w -> w.push(1, 0, 65, false)), "IllegalArgumentException");
         Due.same("a full pile stays", full.count(0) + " " + full.told(0, 0) + " " + full.told(63, 0), "64 64 1");
     }
 }
